@@ -1,0 +1,19 @@
+/** Runs every test of the project, and ends with exit code 1 if one fails. */
+public final class AllTests {
+    private AllTests() {
+    }
+
+    public static void main(String[] args) {
+        FaceTest.run();
+        ModificationsTest.run();
+        TextTest.run();
+        HistoryTest.run();
+        FirstListTest.run();
+        SecondListTest.run();
+        CountsTest.run();
+        ModelTest.run();
+        if (!Checks.close()) {
+            System.exit(1);
+        }
+    }
+}
