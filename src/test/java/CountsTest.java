@@ -103,6 +103,10 @@ final class CountsTest {
         ParrotCounts all = Given.sung(9, "abcdefghijklmnopqrstuvwxyz");
         // u to z took over counters with 2, and have 3 where 1 is true.
         Checks.same(2, all.greatestError(), "all parrots are heard");
+        ParrotCounts first = Given.sung(9, "2b2c2d2e2f2g2h2i2j2k2l2m2n2o2p2q2r2s2t2u2v2w2x2y2z");
+        // v to z have 6 then, q to u 4, and 6 with two more calls each; so a takes over a counter with 6.
+        Given.sing(first, "2q2r2s2t2ua");
+        Checks.same(6, first.greatestError(), "the error of a alone");
     }
 
     private static void hasAside() {

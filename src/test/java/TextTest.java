@@ -72,7 +72,7 @@ final class TextTest {
 
     private static void noSongs() {
         String[] texts = {"", "0a", "1a", "01a", "02a", "00", "100a", "2", "99", "a2", "(a)", "1(a)", "2()", "2(a", "2(2)",
-            "2(a2)", "a)", "2(a))", "2(2(a))", "2(a2(b))", "2((a))", "A", "a b", "2(a)(b)", "2 a", "22", "2(a)2", "2("};
+            "2(a2)", "a)", "2(a))", "2(2(a))", "2(a2(b))", "2((a))", "A", "a b", "2(a)(b)", "2 a", "22", "2(a)2", "2(", "a2()", "2(a)3()"};
         for (String text : texts) {
             Checks.same(false, Given.withText(text).isValid(), "valid: " + text);
         }
@@ -91,6 +91,8 @@ final class TextTest {
         firstErrorIs(0, "(a)");
         firstErrorIs(1, "a(b)");
         firstErrorIs(2, "2()");
+        firstErrorIs(3, "a2()");
+        firstErrorIs(6, "2(a)3()");
         firstErrorIs(3, "2(2)");
         firstErrorIs(3, "2(3(a))");
         firstErrorIs(2, "2((a))");
