@@ -11,6 +11,12 @@ public final class AllTests {
         FirstListTest.run();
         SecondListTest.run();
         CountsTest.run();
+        ListSentences.run();
+        MergeSentences.run();
+        TextSentences.run();
+        HistorySentences.run();
+        RefusalSentences.run();
+        AnswerSentences.run();
         ModelTest.run();
         if (!Checks.close()) {
             System.exit(1);

@@ -98,4 +98,22 @@ final class Given {
         x.mergeIn();
         return view + " || " + view(x);
     }
+
+    /** What the text answers, also with one more character, and the calls of its song; the lists are lost by it. */
+    static String textView(ParrotCounts x) {
+        StringBuilder view = new StringBuilder();
+        for (String more : new String[] {"", ")", "z"}) {
+            if (!more.isEmpty()) {
+                view.append(orWhat(() -> x.append(more.charAt(0)))).append(' ');
+            }
+            view.append(x.isValid()).append(' ').append(orWhat(x::firstError)).append(' ');
+            x.empty(1);
+            view.append(orWhat(x::callsOfSong)).append(' ').append(orWhat(x::hearSong));
+            for (int parrot = 0; parrot < PARROTS; parrot++) {
+                view.append(' ').append(x.trueCount(parrot)).append(' ').append(x.estimate(parrot));
+            }
+            view.append(" | ");
+        }
+        return view.append(x.clearText()).toString();
+    }
 }
