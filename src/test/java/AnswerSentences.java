@@ -351,6 +351,7 @@ final class AnswerSentences {
         x.hear(12);
         Checks.fails(java.util.NoSuchElementException.class, () -> x.surplus(25), "when another parrot was heard");
         Checks.same(0, x.nextTakenOver(), "a has the least count");
+        Checks.same(0, Given.sung(1, "2a2z").nextTakenOver(), "a was changed longest ago");
     }
 
     private static void positions() {

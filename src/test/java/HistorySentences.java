@@ -18,6 +18,7 @@ final class HistorySentences {
         Document.test(HISTORY, KEPT, "the latest one is restored and removed", HistorySentences::latestRemoved);
         Document.test(HISTORY, KEPT, "again and again", HistorySentences::againAndAgain);
         Document.test(HISTORY, STATE, "everything", HistorySentences::everything);
+        Document.test(HISTORY, STATE, "the order of the changes", HistorySentences::order);
         Document.test(HISTORY, STATE, "what is aside", HistorySentences::aside);
         Document.test(HISTORY, STATE, "not the text buffer", HistorySentences::notTheText);
         Document.test(HISTORY, STATE, "not the history", HistorySentences::notTheHistory);
@@ -80,11 +81,20 @@ final class HistorySentences {
         }
     }
 
-    private static void isRestored(Consumer<ParrotCounts> modification, String what) {
+    private static ParrotCounts restored(Consumer<ParrotCounts> modification) {
         ParrotCounts x = Given.busy();
         modification.accept(x);
         x.undo();
-        Checks.same(Given.deepView(Given.busy()), Given.deepView(x), "what is restored behind " + what);
+        return x;
+    }
+
+    private static void isRestored(Consumer<ParrotCounts> modification, String what) {
+        Checks.same(Given.deepView(Given.busy()), Given.deepView(restored(modification)), "what is restored behind " + what);
+        ParrotCounts x = restored(modification);
+        ParrotCounts y = Given.busy();
+        x.hear(5);
+        y.hear(5);
+        Checks.same(Given.deepView(y), Given.deepView(x), "and how it goes on");
     }
 
     private static void everything() {
@@ -93,10 +103,30 @@ final class HistorySentences {
         isRestored(x -> x.empty(9), "empty");
         isRestored(ParrotCounts::putAside, "putAside");
         isRestored(ParrotCounts::mergeIn, "mergeIn");
-        ParrotCounts x = Given.sung(2, "cba");
-        x.hear(2);
+    }
+
+    private static void order() {
+        orderIsRestored(x -> x.hear(2), "hear");
+        orderIsRestored(ParrotCounts::hearSong, "hearSong");
+        orderIsRestored(x -> x.empty(9), "empty");
+        orderIsRestored(ParrotCounts::putAside, "putAside");
+        orderIsRestored(ParrotCounts::mergeIn, "mergeIn");
+    }
+
+    private static ParrotCounts undone(String song, Consumer<ParrotCounts> modification) {
+        ParrotCounts x = Given.withCapacity(2);
+        x.putAside();
+        Given.sing(x, song);
+        modification.accept(x);
         x.undo();
-        Checks.same(2, x.nextTakenOver(), "the order of the changes: c is the oldest one again");
+        return x;
+    }
+
+    private static void orderIsRestored(Consumer<ParrotCounts> modification, String what) {
+        Checks.same(2, undone("2c2b2a", modification).nextTakenOver(), "c is the oldest one again behind " + what);
+        ParrotCounts x = undone("c2b2a", modification);
+        x.hear(2);
+        Checks.same(1, x.nextTakenOver(), "c is younger then than what was heard before " + what);
     }
 
     private static void aside() {

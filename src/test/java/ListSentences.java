@@ -198,6 +198,10 @@ final class ListSentences {
         Checks.same(0, x.sureCount(0), "a lost its counter");
         Checks.same(0, x.sureCount(25), "z, whatever the floor is");
         Checks.same(1, x.sureCount(2), "c took over");
+        Given.sing(x, "2ba");
+        Checks.same(0, x.sureCount(2), "c lost the counter that it took over");
+        x.putAside();
+        Checks.same(0, x.sureCount(0), "a has none in new lists, though it took one over before");
     }
 
     private static void everywhere(java.util.function.Consumer<ParrotCounts> holds) {

@@ -134,6 +134,11 @@ final class MergeSentences {
         counterIs(x, 1, 3, 0);
         counterIs(x, 2, 2, 0);
         Checks.same(0, x.floor(), "a counter is left");
+        ParrotCounts y = merged(3, "za", "yb");
+        for (int parrot : new int[] {0, 1, 24, 25}) {
+            counterIs(y, parrot, 1, 0);
+        }
+        Checks.same(2, merged(3, "a", "a").estimate(0), "the least counts there are");
     }
 
     private static void floorOfAside() {

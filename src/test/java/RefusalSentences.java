@@ -189,6 +189,12 @@ final class RefusalSentences {
         Checks.fails(IllegalStateException.class, x::mergeIn, "50000 calls and 50000");
         x.putAside();
         Checks.same(50000, x.mergeIn(), "the second ones alone");
+        ParrotCounts y = Given.full();
+        y.putAside();
+        y.hear(0);
+        Checks.fails(IllegalStateException.class, y::mergeIn, "1 call and 99999");
+        y.undo();
+        Checks.same(99999, y.mergeIn(), "none and 99999");
     }
 
     private static void fullText() {
@@ -382,7 +388,7 @@ final class RefusalSentences {
         unchanged(() -> Given.withText("2a"), IllegalStateException.class, ParrotCounts::undo, "undo on a new object");
         unchanged(() -> {
             ParrotCounts x = Given.busy();
-            while (x.historySize() > 0) {
+            for (int i = 0; i < 5; i++) {
                 x.undo();
             }
             return x;

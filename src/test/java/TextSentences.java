@@ -144,6 +144,8 @@ final class TextSentences {
     }
 
     private static void callsOfParentheses() {
+        song("3(2ab)", 9);
+        song("99(99z)99z", 99 * 99 + 99);
         ParrotCounts x = Given.sung(9, "a3(2ab)99(c)d2(e)");
         int[] due = {7, 3, 99, 1, 2};
         for (int parrot = 0; parrot < due.length; parrot++) {
