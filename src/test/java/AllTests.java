@@ -18,6 +18,7 @@ public final class AllTests {
         RefusalSentences.run();
         AnswerSentences.run();
         ModelTest.run();
+        ReadmeTest.run();
         if (!Checks.close()) {
             System.exit(1);
         }

@@ -47,7 +47,7 @@ final class Document {
         Checks.same(70, lines, "lines that tell an argument, an answer or a refusal");
     }
 
-    private static Map<String, String> sections() throws Exception {
+    static Map<String, String> sections() throws Exception {
         Map<String, String> sections = new LinkedHashMap<>();
         String section = "";
         for (String line : Files.readString(FILE).split("\n")) {
